@@ -913,8 +913,8 @@ public final class CompassMarriage {
                 spread = number;
                 arcs = 0;
             } else if (kind == CHANGE) {
-                x = legX();
-                y = legY();
+                x += spread * STEP_X[way & 3];
+                y += spread * STEP_Y[way & 3];
                 way = (way + 2) & 3;
                 sighs += arcs > 0 && arcs < QUARTERS ? 1 : 0;
                 arcs = 0;
