@@ -352,7 +352,7 @@ public final class CompassMarriage {
         if (!told.has(couple) || !isWithin(what, 0, 1)) {
             return BAD;
         }
-        return what == 0 ? spreadsThatFit(couple) : sortsThatFit(couple);
+        return what == 0 ? spreadsThatFit(couple) : valuesThatFit(couple, tried.sort, SORTS);
     }
 
     public int ask(int couple) {
@@ -697,24 +697,17 @@ public final class CompassMarriage {
     }
 
     private int spreadsThatFit(int couple) {
-        tried.setTo(told);
-        int bits = 0;
-        for (int spread = 0; spread < FIGURES; spread++) {
-            tried.spread[couple] = spread;
-            if (sightings.comeOut(tried, events, events.all(), single)) {
-                bits |= 1 << spread;
-            }
-        }
-        return bits;
+        return valuesThatFit(couple, tried.spread, FIGURES);
     }
 
-    private int sortsThatFit(int couple) {
+    /** Values from 0 on, in one of the rows of tried, by which all that was seen comes out so, as bits. */
+    private int valuesThatFit(int couple, int[] row, int values) {
         tried.setTo(told);
         int bits = 0;
-        for (int sort = 0; sort < SORTS; sort++) {
-            tried.sort[couple] = sort;
+        for (int value = 0; value < values; value++) {
+            row[couple] = value;
             if (sightings.comeOut(tried, events, events.all(), single)) {
-                bits |= 1 << sort;
+                bits |= 1 << value;
             }
         }
         return bits;
