@@ -352,14 +352,16 @@ public final class CompassMarriage {
         if (!told.has(couple) || !isWithin(what, 0, 1)) {
             return BAD;
         }
-        return what == 0 ? spreadsThatFit(couple) : valuesThatFit(couple, tried.sort, SORTS);
+        return what == 0
+                ? valuesThatFit(couple, tried.spread, FIGURES)
+                : valuesThatFit(couple, tried.sort, SORTS);
     }
 
     public int ask(int couple) {
         if (!told.has(couple)) {
             return BAD;
         }
-        int spreads = spreadsThatFit(couple);
+        int spreads = valuesThatFit(couple, tried.spread, FIGURES);
         int best = 0;
         int least = FIGURES + 1;
         for (int day = 0; day < DAYS; day++) {
@@ -694,10 +696,6 @@ public final class CompassMarriage {
             }
         }
         return NONE;
-    }
-
-    private int spreadsThatFit(int couple) {
-        return valuesThatFit(couple, tried.spread, FIGURES);
     }
 
     /** Values from 0 on, in one of the rows of tried, by which all that was seen comes out so, as bits. */
