@@ -2,6 +2,8 @@
 public final class CompassMarriage {
     public static final int NONE = -1, BAD = -2, NOT = -3, FULL = -4;
 
+    private static final int LEAST_INT = -2147483648;
+    private static final long LEAST_LONG = -9223372036854775808L;
     private static final int COUPLES = 8, BYTES = 39, EVENTS = 8, SIGHTINGS = 8;
     private static final int DAYS = 20, LAST_DAY = 19, FIGURES = 10, SORTS = 3, FAR = 99;
     private static final int STIFF = 0, LOOSE = 1, BEAM = 2;
@@ -155,7 +157,7 @@ public final class CompassMarriage {
 
     public int place(int day, int couple, int what) {
         if (!isDay(day) || !told.has(couple)) {
-            return Integer.MIN_VALUE;
+            return LEAST_INT;
         }
         single.live(told, events, events.all(), couple, day);
         switch (what) {
@@ -168,7 +170,7 @@ public final class CompassMarriage {
             case 3:
                 return single.legY();
             default:
-                return Integer.MIN_VALUE;
+                return LEAST_INT;
         }
     }
 
@@ -376,7 +378,7 @@ public final class CompassMarriage {
 
     public long gossip(int c, int day, int what) {
         if (!isWithin(c, 0, 16) || !isDay(day) || !isWithin(what, 0, 1)) {
-            return Long.MIN_VALUE - BAD;
+            return LEAST_LONG - BAD;
         }
         int halvings = 4 * events.size;
         long above = waysTalked(c, day);
@@ -436,12 +438,12 @@ public final class CompassMarriage {
 
     public int get(int s, int form, int i) {
         if (!isSheet(s) || !isForm(form)) {
-            return Integer.MIN_VALUE;
+            return LEAST_INT;
         }
         int wrong = sheets[s].wrongWith(form, i);
         if (wrong != 0) {
             find(wrong);
-            return Integer.MIN_VALUE;
+            return LEAST_INT;
         }
         return sheets[s].items[i];
     }

@@ -24,7 +24,8 @@ public final class FaceTest {
         "int get(int,int,int)", "int copy(int,int,int,int,int)", "int write(int,int)", "int count(int)",
         "long digest()"};
     private static final String[] FORBIDDEN = {"throw", "throws", "try", "catch", "finally", "synchronized",
-        "assert", "import", "package", "protected", "Exception", "Exact", "System\\.(?!arraycopy)", "->", "::", "Object"};
+        "assert", "import", "package", "protected", "Exception", "Exact", "System\\.(?!arraycopy)", "->", "::", "Object",
+        "\\b(Integer|Long|Math)\\.(?!(compare|max|min|abs|bitCount|floorDiv|floorMod)\\()"};
 
     public static void main(String[] args) throws IOException {
         looksAtMembers();
