@@ -518,59 +518,8 @@ public final class CompassMarriage {
         for (int it = 0; it < told.size; it++) {
             h = mixCouple(h, it);
         }
-        for (int one = 0; one < told.size; one++) {
-            for (int other = one + 1; other < told.size; other++) {
-                h = mix(h, are(9, one, other));
-                h = mix(h, are(LAST_DAY, one, other));
-            }
-        }
-        for (int day = 0; day < DAYS; day++) {
-            h = mix(h, pairs(day, 0));
-            h = mix(h, pairs(day, 1));
-            h = mix(h, closed(day));
-        }
-        return mixRest(h);
-    }
-
-    // ---- digest's parts
-
-    private static long mix(long h, long value) {
-        return 31 * h + value;
-    }
-
-    private long mixCouple(long start, int it) {
-        long h = start;
-        for (int what = 0; what <= 3; what++) {
-            h = mix(h, couple(it, what));
-        }
-        h = mixDay(h, 0, it);
-        h = mixDay(h, 6, it);
-        h = mixDay(h, 12, it);
-        h = mixDay(h, LAST_DAY, it);
-        h = mix(h, ringed(it));
-        h = mix(h, open(it, 12, 0));
-        h = mix(h, open(it, 12, 1));
-        for (int what = 0; what <= 2; what++) {
-            h = mix(h, stand(it, 12, what));
-        }
-        h = mix(h, was(it, 0));
-        h = mix(h, was(it, 1));
-        return mix(h, ask(it));
-    }
-
-    private long mixDay(long start, int day, int it) {
-        long h = start;
-        for (int what = 0; what <= 4; what++) {
-            h = mix(h, at(day, it, what));
-        }
-        for (int what = 0; what <= 3; what++) {
-            h = mix(h, place(day, it, what));
-        }
-        return h;
-    }
-
-    private long mixRest(long start) {
-        long h = mix(start, holes());
+        h = mixDays(mixPairs(h));
+        h = mix(h, holes());
         for (int what = 0; what <= 2; what++) {
             h = mix(h, meets(what));
         }
@@ -584,6 +533,64 @@ public final class CompassMarriage {
         h = mix(h, gossip(5, 14, 1));
         h = mix(h, ages(7, 6, 0));
         return mix(h, ages(7, 6, 1));
+    }
+
+    // ---- digest's parts
+
+    private static long mix(long h, long value) {
+        return 31 * h + value;
+    }
+
+    private long mixCouple(long start, int it) {
+        long h = start;
+        for (int what = 0; what <= 3; what++) {
+            h = mix(h, couple(it, what));
+        }
+        h = mixOneDay(h, 0, it);
+        h = mixOneDay(h, 6, it);
+        h = mixOneDay(h, 12, it);
+        h = mixOneDay(h, LAST_DAY, it);
+        h = mix(h, ringed(it));
+        h = mix(h, open(it, 12, 0));
+        h = mix(h, open(it, 12, 1));
+        for (int what = 0; what <= 2; what++) {
+            h = mix(h, stand(it, 12, what));
+        }
+        h = mix(h, was(it, 0));
+        h = mix(h, was(it, 1));
+        return mix(h, ask(it));
+    }
+
+    private long mixOneDay(long start, int day, int it) {
+        long h = start;
+        for (int what = 0; what <= 4; what++) {
+            h = mix(h, at(day, it, what));
+        }
+        for (int what = 0; what <= 3; what++) {
+            h = mix(h, place(day, it, what));
+        }
+        return h;
+    }
+
+    private long mixPairs(long start) {
+        long h = start;
+        for (int one = 0; one < told.size; one++) {
+            for (int other = one + 1; other < told.size; other++) {
+                h = mix(h, are(9, one, other));
+                h = mix(h, are(LAST_DAY, one, other));
+            }
+        }
+        return h;
+    }
+
+    private long mixDays(long start) {
+        long h = start;
+        for (int day = 0; day < DAYS; day++) {
+            h = mix(h, pairs(day, 0));
+            h = mix(h, pairs(day, 1));
+            h = mix(h, closed(day));
+        }
+        return h;
     }
 
     // ---- what the acts share
@@ -947,25 +954,30 @@ public final class CompassMarriage {
             return legX() == other.legX() && legY() == other.legY();
         }
 
+        /** Whether what the two are is among these. */
+        boolean isAny(int relations, Ring other) {
+            return (relations >> against(other) & 1) == 1;
+        }
+
         /** What the two are. */
         int against(Ring other) {
-            int apart = square(x - other.x) + square(y - other.y);
+            int alongX = x - other.x;
+            int alongY = y - other.y;
+            int apart = alongX * alongX + alongY * alongY;
             if (apart == 0 && spread == other.spread) {
                 return ALIKE;
             }
-            int together = square(spread + other.spread);
+            int both = spread + other.spread;
+            int together = both * both;
             if (apart >= together) {
                 return apart == together ? TOUCH : APART;
             }
-            int differ = square(spread - other.spread);
-            if (apart <= differ) {
-                return apart == differ ? TOUCH_WITHIN : WITHIN;
+            int more = spread - other.spread;
+            int difference = more * more;
+            if (apart <= difference) {
+                return apart == difference ? TOUCH_WITHIN : WITHIN;
             }
             return CROSS;
-        }
-
-        private static int square(int number) {
-            return number * number;
         }
     }
 
@@ -1000,7 +1012,7 @@ public final class CompassMarriage {
             int found = 0;
             for (int one = 0; one < size; one++) {
                 for (int other = one + 1; other < size && rings[one].isClosed(); other++) {
-                    if (rings[other].isClosed() && isOf(one, other, relations)) {
+                    if (rings[other].isClosed() && rings[one].isAny(relations, rings[other])) {
                         found++;
                     }
                 }
@@ -1011,15 +1023,11 @@ public final class CompassMarriage {
         int othersWith(int couple, int relations) {
             int found = 0;
             for (int other = 0; other < size; other++) {
-                if (other != couple && isOf(couple, other, relations)) {
+                if (other != couple && rings[couple].isAny(relations, rings[other])) {
                     found++;
                 }
             }
             return found;
-        }
-
-        private boolean isOf(int one, int other, int relations) {
-            return (relations >> rings[one].against(rings[other]) & 1) == 1;
         }
 
         int closedBits() {

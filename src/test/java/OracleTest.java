@@ -2,8 +2,11 @@ import java.util.Random;
 
 /** Random runs of calls, each answer held against the slow model's. */
 public final class OracleTest {
-    private static final int RUNS = 400;
-    private static final int CALLS = 300;
+    private static final int RUNS = 1000;
+    /** What an object answers beyond these is free. */
+    private static final int CALLS = 512;
+    /** More than the calls of one round, and the digest behind the last. */
+    private static final int ROUND = 50;
     private static final int[] ODD = {-1, -2, 10, 11, 20, 60, 61, 99, 100, -99, -100, 255, 256,
         Integer.MAX_VALUE, Integer.MIN_VALUE, Integer.MAX_VALUE - 3};
 
@@ -11,6 +14,7 @@ public final class OracleTest {
     private final CompassMarriage real = new CompassMarriage();
     private final Oracle model = new Oracle();
     private final String label;
+    private int calls;
 
     private OracleTest(int seed) {
         random = new Random(seed);
@@ -26,8 +30,8 @@ public final class OracleTest {
 
     private void run() {
         typeCouples();
-        int calls = random.nextInt(CALLS);
-        for (int i = 0; i < calls && Check.wrongSoFar() == 0; i++) {
+        int enough = random.nextInt(CALLS - ROUND);
+        while (calls < enough && Check.wrongSoFar() == 0) {
             switch (random.nextInt(6)) {
                 case 0 -> changeWords();
                 case 1 -> lookAtDays();
@@ -37,9 +41,11 @@ public final class OracleTest {
             }
         }
         due("digest()", real.digest(), model.digest());
+        Check.isTrue(label + calls + " calls", calls <= CALLS);
     }
 
     private void due(String call, long got, long want) {
+        calls++;
         Check.due(label + call, got, want);
     }
 
